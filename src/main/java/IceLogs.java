@@ -96,8 +96,8 @@ public final class IceLogs {
     private static final int WORD_NOT = 32;
     private static final int FIRST_VAR = 33;
     private static final int LAST_VAR = 41;
-    private static final String WORDS = "land edge share whale lead if want sight move births or and not "
-        + "x y week year noise off whales ice price ";
+    private static final String WORDS =
+        "land edge share whale lead if want sight move births or and not x y week year noise off whales ice price ";
 
     // VARS, in the order of WORDS
     private static final int VAR_X = 0;
@@ -189,6 +189,7 @@ public final class IceLogs {
     }
 
     public int read() {
+        tape.findTokens();
         fault = parser.parse();
         faultPlace = fault == 0 ? NONE : parser.faultPlace;
         if (fault == 0) {
@@ -744,15 +745,18 @@ public final class IceLogs {
         }
     }
 
-    /** The tape, and the TOKEN on it that is looked at. */
+    /** The tape, and the TOKENS on it. */
     private static final class Tape {
         final byte[] bytes = new byte[TAPE_LIMIT];
         int length;
+        // the TOKENS of a text, up to the first that is too many or none, or the end: of an INT its value, of a
+        // NAME its letters as one number
+        final int[] kinds = new int[MOST_TOKENS + 1];
+        final int[] starts = new int[MOST_TOKENS + 1];
+        final long[] values = new long[MOST_TOKENS + 1];
+        int many;
         int position;
-        int kind;
-        int start;
-        int value;
-        long name;
+        long value;
 
         void append(int word) {
             for (int shift = 24; shift >= 0; shift -= 8) {
@@ -763,26 +767,36 @@ public final class IceLogs {
             }
         }
 
-        void rewind() {
+        void findTokens() {
             position = 0;
+            many = 0;
+            boolean more = true;
+            for (int i = 0; i <= MOST_TOKENS && more; i++) {
+                skipBlanks();
+                starts[i] = position;
+                value = 0;
+                kinds[i] = passToken();
+                values[i] = value;
+                many++;
+                more = kinds[i] != END && kinds[i] != BAD;
+            }
         }
 
-        /** Looks at the TOKEN from the position on (or what is none, or the end). */
-        void step() {
+        private void skipBlanks() {
             for (int i = 0; i < TAPE_LIMIT && isBlank(signAt(position)); i++) {
                 position++;
             }
-            start = position;
+        }
+
+        private int passToken() {
             int sign = signAt(position);
             if (sign == NONE) {
-                kind = END;
-            } else if (isLetter(sign)) {
-                lookAtWord();
-            } else if (isDigit(sign)) {
-                lookAtInt();
-            } else {
-                lookAtSign(sign);
+                return END;
             }
+            if (isLetter(sign)) {
+                return passWord();
+            }
+            return isDigit(sign) ? passInt() : passSign(sign);
         }
 
         private int signAt(int i) {
@@ -801,66 +815,66 @@ public final class IceLogs {
             return sign >= '0' && sign <= '9';
         }
 
-        private void lookAtWord() {
-            name = 0;
+        private int passWord() {
+            int first = position;
             for (int i = 0; i < TAPE_LIMIT && isLetter(signAt(position)); i++) {
-                name = name * 32 + (signAt(position) - 'a' + 1);
+                value = value * 32 + (signAt(position) - 'a' + 1);
                 position++;
             }
-            kind = position - start > LONGEST_NAME ? BAD : wordOf(position - start);
+            return position - first > LONGEST_NAME ? BAD : wordOf(first, position - first);
         }
 
-        private int wordOf(int size) {
+        private int wordOf(int first, int size) {
             int word = FIRST_WORD;
-            int first = 0;
+            int begin = 0;
             for (int i = 0; i < WORDS.length(); i++) {
                 if (WORDS.charAt(i) == ' ') {
-                    if (i - first == size && standsHere(first, size)) {
+                    if (i - begin == size && isAlike(begin, first, size)) {
                         return word;
                     }
                     word++;
-                    first = i + 1;
+                    begin = i + 1;
                 }
             }
             return NAME;
         }
 
-        private boolean standsHere(int first, int size) {
+        private boolean isAlike(int begin, int first, int size) {
             for (int i = 0; i < size; i++) {
-                if (!isIn(first + i, WORDS.length()) || WORDS.charAt(first + i) != signAt(start + i)) {
+                if (!isIn(begin + i, WORDS.length()) || WORDS.charAt(begin + i) != signAt(first + i)) {
                     return false;
                 }
             }
             return true;
         }
 
-        private void lookAtInt() {
-            value = 0;
+        private int passInt() {
+            int first = position;
             for (int i = 0; i < TAPE_LIMIT && isDigit(signAt(position)); i++) {
                 value = value * 10 + (signAt(position) - '0');
                 position++;
             }
-            kind = position - start > LONGEST_INT ? BAD : INT;
+            return position - first > LONGEST_INT ? BAD : INT;
         }
 
-        private void lookAtSign(int sign) {
+        private int passSign(int sign) {
             position++;
-            boolean beforeAssign = signAt(position) == '=';
-            switch (sign) {
-                case ';': kind = SEMICOLON; break;
-                case '+': kind = PLUS; break;
-                case '-': kind = MINUS; break;
-                case '*': kind = TIMES; break;
-                case '/': kind = SLASH; break;
-                case '(': kind = OPEN; break;
-                case ')': kind = CLOSE; break;
-                case '=': kind = beforeAssign ? EQUAL : ASSIGN; break;
-                case '!': kind = beforeAssign ? UNEQUAL : BAD; break;
-                case '<': kind = beforeAssign ? AT_MOST : BELOW; break;
-                default: kind = BAD;
-            }
-            if (kind == EQUAL || kind == UNEQUAL || kind == AT_MOST) {
+            boolean isDouble = signAt(position) == '=' && (sign == '=' || sign == '!' || sign == '<');
+            if (isDouble) {
                 position++;
+            }
+            switch (sign) {
+                case ';': return SEMICOLON;
+                case '+': return PLUS;
+                case '-': return MINUS;
+                case '*': return TIMES;
+                case '/': return SLASH;
+                case '(': return OPEN;
+                case ')': return CLOSE;
+                case '=': return isDouble ? EQUAL : ASSIGN;
+                case '!': return isDouble ? UNEQUAL : BAD;
+                case '<': return isDouble ? AT_MOST : BELOW;
+                default: return BAD;
             }
         }
     }
@@ -870,7 +884,11 @@ public final class IceLogs {
         final Tape tape;
         final Text draft = new Text();
         final long[] names = new long[MOST_WANTS];
-        int tokens;
+        // the TOKEN looked at
+        int index;
+        int kind;
+        int start;
+        int value;
         int fault;
         int faultPlace;
         // the first FAULT that counts only where the whole text has no SYNTAX or ROOM
@@ -883,13 +901,22 @@ public final class IceLogs {
 
         int parse() {
             draft.clear();
-            tokens = 0;
             fault = 0;
             doubt = 0;
-            tape.rewind();
-            tape.step();
-            for (int i = 0; i <= MOST_TOKENS && fault == 0 && tape.kind != END; i++) {
-                tell();
+            lookAt(0);
+            for (int i = 0; i <= MOST_TOKENS && fault == 0 && kind != END; i++) {
+                switch (kind) {
+                    case WORD_LAND: tellLand(); break;
+                    case WORD_EDGE: draft.edgeLaw = tellLaw(); break;
+                    case WORD_SHARE: draft.shareLaw = tellLaw(); break;
+                    case WORD_WHALE: draft.whaleLaw = tellLaw(); break;
+                    case WORD_LEAD: tellLead(); break;
+                    case WORD_WANT: tellWant(); break;
+                    case WORD_SIGHT: draft.sight = tellNumber(0, 5); break;
+                    case WORD_MOVE: draft.move = tellNumber(1, 3); break;
+                    case WORD_BIRTHS: draft.births = tellNumber(0, 100); break;
+                    default: fail(SYNTAX);
+                }
             }
             if (fault == 0) {
                 fault = doubt;
@@ -898,10 +925,19 @@ public final class IceLogs {
             return fault;
         }
 
+        private void lookAt(int i) {
+            index = i;
+            if (isIn(i, tape.many) && i <= MOST_TOKENS) {
+                kind = tape.kinds[i];
+                start = tape.starts[i];
+                value = kind == INT ? (int) tape.values[i] : 0;
+            }
+        }
+
         private void fail(int number) {
             if (fault == 0) {
                 fault = number;
-                faultPlace = tape.start;
+                faultPlace = start;
             }
         }
 
@@ -913,45 +949,21 @@ public final class IceLogs {
         }
 
         /** The TOKEN looked at must be of this kind; behind a FAULT nothing is taken any more. */
-        private void take(int kind) {
+        private void take(int wanted) {
             if (fault != 0) {
                 return;
             }
-            if (tape.kind != kind) {
+            if (kind != wanted) {
                 fail(SYNTAX);
-                return;
-            }
-            tokens++;
-            if (tokens > MOST_TOKENS) {
+            } else if (index >= MOST_TOKENS) {
                 fail(ROOM);
-                return;
+            } else {
+                lookAt(index + 1);
             }
-            tape.step();
         }
 
-        private int takeInt() {
-            int value = tape.value;
-            take(INT);
-            return value;
-        }
-
-        private boolean isNext(int kind) {
-            return fault == 0 && tape.kind == kind;
-        }
-
-        private void tell() {
-            switch (tape.kind) {
-                case WORD_LAND: tellLand(); break;
-                case WORD_EDGE: draft.edgeLaw = tellLaw(WORD_EDGE); break;
-                case WORD_SHARE: draft.shareLaw = tellLaw(WORD_SHARE); break;
-                case WORD_WHALE: draft.whaleLaw = tellLaw(WORD_WHALE); break;
-                case WORD_LEAD: tellLead(); break;
-                case WORD_WANT: tellWant(); break;
-                case WORD_SIGHT: draft.sight = tellNumber(WORD_SIGHT, 0, 5); break;
-                case WORD_MOVE: draft.move = tellNumber(WORD_MOVE, 1, 3); break;
-                case WORD_BIRTHS: draft.births = tellNumber(WORD_BIRTHS, 0, 100); break;
-                default: fail(SYNTAX);
-            }
+        private boolean isNext(int wanted) {
+            return fault == 0 && kind == wanted;
         }
 
         private void tellLand() {
@@ -959,10 +971,12 @@ public final class IceLogs {
                 fail(ROOM);
             }
             take(WORD_LAND);
-            int xPlace = tape.start;
-            int x = takeInt();
-            int yPlace = tape.start;
-            int y = takeInt();
+            int xPlace = start;
+            int x = value;
+            take(INT);
+            int yPlace = start;
+            int y = value;
+            take(INT);
             take(SEMICOLON);
             if (fault != 0) {
                 return;
@@ -976,14 +990,14 @@ public final class IceLogs {
             }
         }
 
-        private int tellLaw(int word) {
-            take(word);
-            take(ASSIGN);
-            return sumLaw();
+        private int tellLaw() {
+            take(kind);
+            return tellSumLaw();
         }
 
-        private int sumLaw() {
+        private int tellSumLaw() {
             int law = draft.size;
+            take(ASSIGN);
             tellSum(0);
             take(SEMICOLON);
             draft.emit(CODE_STOP, 0);
@@ -994,9 +1008,9 @@ public final class IceLogs {
             if (draft.leads >= MOST_LEADS) {
                 fail(ROOM);
             }
+            int law = draft.size;
             take(WORD_LEAD);
             take(WORD_IF);
-            int law = draft.size;
             tellCondition();
             take(SEMICOLON);
             draft.emit(CODE_STOP, 0);
@@ -1011,11 +1025,10 @@ public final class IceLogs {
                 fail(ROOM);
             }
             take(WORD_WANT);
-            int namePlace = tape.start;
-            long name = tape.name;
+            int namePlace = start;
+            long name = isIn(index, tape.many) && index <= MOST_TOKENS ? tape.values[index] : 0;
             take(NAME);
-            take(ASSIGN);
-            int law = sumLaw();
+            int law = tellSumLaw();
             if (fault == 0 && isIn(draft.wants, MOST_WANTS)) {
                 for (int i = 0; i < draft.wants; i++) {
                     doubtIf(names[i] == name, TWICE, namePlace);
@@ -1026,23 +1039,24 @@ public final class IceLogs {
             }
         }
 
-        private int tellNumber(int word, int least, int most) {
-            take(word);
-            int at = tape.start;
-            int value = takeInt();
+        private int tellNumber(int least, int most) {
+            take(kind);
+            int at = start;
+            int number = value;
+            take(INT);
             take(SEMICOLON);
-            doubtIf(value < least || value > most, WRONG, at);
-            return value;
+            doubtIf(number < least || number > most, WRONG, at);
+            return number;
         }
 
         // 'and' binds closer than 'or', and neither stands in brackets: so LITS follow one another
         private void tellCondition() {
             tellLiteral();
             for (int i = 0; i < MOST_TOKENS && (isNext(WORD_OR) || isNext(WORD_AND)); i++) {
-                if (tape.kind == WORD_OR) {
+                if (kind == WORD_OR) {
                     draft.emit(CODE_OR, 0);
                 }
-                take(tape.kind);
+                take(kind);
                 tellLiteral();
             }
         }
@@ -1054,7 +1068,7 @@ public final class IceLogs {
                 negated = 1 - negated;
             }
             tellSum(0);
-            int sign = tape.kind;
+            int sign = kind;
             if (sign == EQUAL || sign == UNEQUAL || sign == BELOW || sign == AT_MOST) {
                 take(sign);
             } else {
@@ -1064,10 +1078,11 @@ public final class IceLogs {
             draft.emit(sign, negated);
         }
 
+        // open: how many brackets are open around; their limit also ends the recursion
         private void tellSum(int open) {
             tellPart(open);
             for (int i = 0; i < MOST_TOKENS && (isNext(PLUS) || isNext(MINUS)); i++) {
-                int sign = tape.kind;
+                int sign = kind;
                 take(sign);
                 tellPart(open);
                 draft.emit(sign, 0);
@@ -1077,7 +1092,7 @@ public final class IceLogs {
         private void tellPart(int open) {
             tellUnit(open);
             for (int i = 0; i < MOST_TOKENS && (isNext(TIMES) || isNext(SLASH)); i++) {
-                int sign = tape.kind;
+                int sign = kind;
                 take(sign);
                 tellUnit(open);
                 draft.emit(sign, 0);
@@ -1085,31 +1100,19 @@ public final class IceLogs {
         }
 
         private void tellUnit(int open) {
-            if (fault != 0) {
-                return;
-            }
-            int kind = tape.kind;
-            if (kind == INT) {
-                draft.emit(CODE_PUSH, takeInt());
-            } else if (kind >= FIRST_VAR && kind <= LAST_VAR) {
+            if (isNext(INT)) {
+                draft.emit(CODE_PUSH, value);
+                take(INT);
+            } else if (fault == 0 && kind >= FIRST_VAR && kind <= LAST_VAR) {
                 draft.emit(CODE_LOAD, kind - FIRST_VAR);
                 take(kind);
-            } else if (kind == OPEN) {
-                tellBrackets(open);
+            } else if (isNext(OPEN) && open < MOST_OPEN) {
+                take(OPEN);
+                tellSum(open + 1);
+                take(CLOSE);
             } else {
-                fail(SYNTAX);
+                fail(isNext(OPEN) ? ROOM : SYNTAX);
             }
-        }
-
-        // open: how many brackets are open around this one; the limit also ends the recursion
-        private void tellBrackets(int open) {
-            if (open >= MOST_OPEN) {
-                fail(ROOM);
-                return;
-            }
-            take(OPEN);
-            tellSum(open + 1);
-            take(CLOSE);
         }
     }
 
@@ -1168,7 +1171,9 @@ public final class IceLogs {
         }
 
         void become(Text other) {
-            System.arraycopy(other.land, 0, land, 0, CELLS);
+            for (int i = 0; i < CELLS; i++) {
+                land[i] = other.land[i];
+            }
             System.arraycopy(other.codes, 0, codes, 0, MOST_CODES);
             System.arraycopy(other.values, 0, values, 0, MOST_CODES);
             System.arraycopy(other.leadLaws, 0, leadLaws, 0, MOST_LEADS);
@@ -1260,13 +1265,12 @@ public final class IceLogs {
             return within(valueOf(text.whaleLaw), 0, 99);
         }
 
-        /** What a WANT says of a cell of the moment surveyed. */
-        int worthOf(int at, int want, int price) {
-            if (!isIn(at, CELLS) || !isIn(want, MOST_WANTS)) {
+        /** What a WANT says of a cell (no LAND) of the moment surveyed that has so many whales. */
+        int worthOf(int at, int want, int whales, int price) {
+            if (!isIn(want, MOST_WANTS)) {
                 return 0;
             }
-            int edge = edgeAt(at);
-            int whales = whalesOf(at / ROWS, at % ROWS, edge);
+            setPlace(at / ROWS, at % ROWS, offOf(at));
             vars[VAR_WHALES] = whales;
             vars[VAR_ICE] = iceBeside(at);
             vars[VAR_PRICE] = price;
@@ -1321,7 +1325,7 @@ public final class IceLogs {
             for (int i = law; isIn(i, MOST_CODES) && text.codes[i] != CODE_STOP; i++) {
                 reckon(text.codes[i], text.values[i]);
             }
-            return dividedByZero ? 0 : pop();
+            return dividedByZero ? 0 : stack[0];
         }
 
         private boolean holds(int law) {
@@ -1344,10 +1348,12 @@ public final class IceLogs {
             return any || all;
         }
 
+        /** Compares the two that are on the stack, which is empty then. */
         private boolean compare(int sign) {
-            int right = pop();
-            int left = pop();
+            int left = stack[0];
+            int right = stack[1];
             boolean failed = dividedByZero;
+            top = 0;
             dividedByZero = false;
             if (failed) {
                 return false;
@@ -1361,45 +1367,30 @@ public final class IceLogs {
         }
 
         private void reckon(int code, int value) {
-            if (code == CODE_PUSH) {
-                push(value);
-                return;
-            }
-            if (code == CODE_LOAD) {
-                push(isIn(value, VARS) ? vars[value] : 0);
-                return;
-            }
-            int right = pop();
-            int left = pop();
-            switch (code) {
-                case PLUS: push(left + right); break;
-                case MINUS: push(left - right); break;
-                case TIMES: push(left * right); break;
-                default: push(divide(left, right));
-            }
-        }
-
-        private int divide(int left, int right) {
-            if (right == 0) {
-                dividedByZero = true;
-                return 0;
-            }
-            return left / right;
-        }
-
-        private void push(int value) {
-            if (isIn(top, DEEPEST)) {
+            if (code == CODE_PUSH && isIn(top, DEEPEST)) {
                 stack[top] = value;
                 top++;
+            } else if (code == CODE_LOAD && isIn(top, DEEPEST) && isIn(value, VARS)) {
+                stack[top] = vars[value];
+                top++;
+            } else if (top >= 2 && top <= DEEPEST) {
+                top--;
+                stack[top - 1] = combine(code, stack[top - 1], stack[top]);
             }
         }
 
-        private int pop() {
-            if (top < 1 || top > DEEPEST) {
-                return 0;
+        private int combine(int sign, int left, int right) {
+            switch (sign) {
+                case PLUS: return left + right;
+                case MINUS: return left - right;
+                case TIMES: return left * right;
+                default:
+                    if (right == 0) {
+                        dividedByZero = true;
+                        return 0;
+                    }
+                    return left / right;
             }
-            top--;
-            return stack[top];
         }
     }
 
@@ -1451,7 +1442,8 @@ public final class IceLogs {
                 return 0;
             }
             if (!asked[at]) {
-                worths[at] = ice.worthOf(at, want, price);
+                int whales = ice.whalesOf(at / ROWS, at % ROWS, ice.edgeAt(at));
+                worths[at] = ice.worthOf(at, want, whales, price);
                 asked[at] = true;
             }
             return worths[at];
@@ -2200,18 +2192,18 @@ public final class IceLogs {
         }
 
         private int leanAmongBest(int ship) {
+            int choices = 2 * MOST_LEAN + 1;
             int best = NONE;
             int lean = 0;
             leans[0] = 0;
-            for (leans[1] = -MOST_LEAN; leans[1] <= MOST_LEAN; leans[1]++) {
-                for (leans[2] = -MOST_LEAN; leans[2] <= MOST_LEAN; leans[2]++) {
-                    for (leans[3] = -MOST_LEAN; leans[3] <= MOST_LEAN; leans[3]++) {
-                        int all = allLeft();
-                        if (best == NONE || all < best) {
-                            best = all;
-                            lean = isIn(ship, KEPT_SHIPS) ? leans[ship] : 0;
-                        }
-                    }
+            for (int i = 0; i < choices * choices * choices; i++) {
+                leans[1] = i / (choices * choices) - MOST_LEAN;
+                leans[2] = i / choices % choices - MOST_LEAN;
+                leans[3] = i % choices - MOST_LEAN;
+                int all = allLeft();
+                if (best == NONE || all < best) {
+                    best = all;
+                    lean = isIn(ship, KEPT_SHIPS) ? leans[ship] : 0;
                 }
             }
             return lean;
