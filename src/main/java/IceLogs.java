@@ -492,15 +492,14 @@ public final class IceLogs {
         if (!isCell(x, y) || !isMoment(week, year, noise)) {
             return NONE;
         }
-        int weeks = escape.weeksOut(ROWS * x + y, year, noise, week);
-        return has(weeks, week) ? 1 : 0;
+        return escape.isOut(ROWS * x + y, week, year, noise) ? 1 : 0;
     }
 
     public int last(int x, int y, int year, int noise) {
         if (!isCell(x, y) || !isMoment(0, year, noise)) {
             return NONE;
         }
-        return lastOf(escape.weeksOut(ROWS * x + y, year, noise, 0));
+        return escape.lastWeek(ROWS * x + y, year, 1 << noise);
     }
 
     public int surely(int x, int y, int look, int year, int slack, int n) {
@@ -508,23 +507,7 @@ public final class IceLogs {
             return NONE;
         }
         tracks.know(n);
-        int noises = spans.fit(look, year, slack);
-        int weeks = (1 << WEEKS) - 1;
-        for (int noise = 0; noise < NOISES && weeks != 0; noise++) {
-            if (has(noises, noise)) {
-                weeks &= escape.weeksOut(ROWS * x + y, year, noise, 0);
-            }
-        }
-        return lastOf(weeks);
-    }
-
-    private static int lastOf(int weeks) {
-        for (int week = WEEKS - 1; week >= 0; week--) {
-            if (has(weeks, week)) {
-                return week;
-            }
-        }
-        return NEVER;
+        return escape.lastWeek(ROWS * x + y, year, spans.fit(look, year, slack));
     }
 
     // ---- what an eye sees, and what a want shows ----
@@ -1465,10 +1448,15 @@ public final class IceLogs {
         }
     }
 
-    /** The weeks in which a ship still gets out. */
+    /**
+     * The cells from which a ship gets out. Ways can be gone both ways within a week: so from the last week on back,
+     * those cells are sought that lie near enough to y 11, or to where one gets out from in the week behind.
+     */
     private static final class Escape {
         final Text text;
         final Ice ice;
+        // by NOISE and cell: if one gets out from there, in the week looked at last
+        final boolean[] open = new boolean[NOISES * CELLS];
         final int[] steps = new int[CELLS];
         final int[] queue = new int[CELLS];
         int waiting;
@@ -1478,38 +1466,55 @@ public final class IceLogs {
             this.ice = ice;
         }
 
-        /**
-         * The weeks (bits) from a first one on in which a ship at a cell gets out. Ways can be gone both ways
-         * within a week: so from the last week on, those cells are sought that lie near enough to the way out.
-         */
-        int weeksOut(int at, int year, int noise, int first) {
-            int weeks = 0;
-            if (!isIn(at, CELLS)) {
-                return weeks;
+        boolean isOut(int at, int week, int year, int noise) {
+            closeAll();
+            for (int i = WEEKS - 1; i >= week && i >= 0; i--) {
+                lookAt(i, year, noise);
             }
-            for (int i = 0; i < CELLS; i++) {
-                steps[i] = NONE;
-            }
-            for (int week = WEEKS - 1; week >= first && week >= 0; week--) {
-                ice.survey(week, year, noise);
-                startFromOpenCells();
-                spread();
-                if (steps[at] != NONE) {
-                    weeks |= 1 << week;
-                }
-            }
-            return weeks;
+            return isOpen(at, noise);
         }
 
-        // steps still tells here from where one gets out in the week behind this one
-        private void startFromOpenCells() {
+        /** The last week in which a ship at a cell gets out with each of some NOISES (bits), else NEVER. */
+        int lastWeek(int at, int year, int noises) {
+            closeAll();
+            for (int week = WEEKS - 1; week >= 0; week--) {
+                boolean all = true;
+                for (int noise = 0; noise < NOISES; noise++) {
+                    if (has(noises, noise)) {
+                        lookAt(week, year, noise);
+                        all = isOpen(at, noise) && all;
+                    }
+                }
+                if (all) {
+                    return week;
+                }
+            }
+            return NEVER;
+        }
+
+        private void closeAll() {
+            for (int i = 0; i < open.length; i++) {
+                open[i] = false;
+            }
+        }
+
+        private boolean isOpen(int at, int noise) {
+            return isIn(at, CELLS) && isIn(noise, NOISES) && open[CELLS * noise + at];
+        }
+
+        // the week behind this one must have been looked at, with this NOISE
+        private void lookAt(int week, int year, int noise) {
+            ice.survey(week, year, noise);
             waiting = 0;
             for (int i = 0; i < CELLS; i++) {
-                boolean open = i % ROWS == ROWS - 1 || steps[i] != NONE;
                 steps[i] = NONE;
-                if (open && ice.isWater(i)) {
-                    join(i, 0);
+                if (ice.isWater(i) && (i % ROWS == ROWS - 1 || isOpen(i, noise))) {
+                    reach(i, 0);
                 }
+            }
+            spread();
+            for (int i = 0; i < CELLS && isIn(noise, NOISES); i++) {
+                open[CELLS * noise + i] = steps[i] != NONE;
             }
         }
 
@@ -1517,16 +1522,17 @@ public final class IceLogs {
             int most = WEEK_DAYS * text.move;
             for (int i = 0; i < waiting && i < CELLS; i++) {
                 int at = queue[i];
-                for (int side = 1; side <= 4 && steps[at] < most; side++) {
+                int step = isIn(at, CELLS) ? steps[at] : most;
+                for (int side = 1; side <= 4 && step < most; side++) {
                     int there = beside(at, side);
                     if (ice.isWater(there) && steps[there] == NONE) {
-                        join(there, steps[at] + 1);
+                        reach(there, step + 1);
                     }
                 }
             }
         }
 
-        private void join(int at, int step) {
+        private void reach(int at, int step) {
             if (isIn(at, CELLS) && isIn(waiting, CELLS)) {
                 steps[at] = step;
                 queue[waiting] = at;
@@ -1581,14 +1587,6 @@ public final class IceLogs {
             return fields[fact * FIELDS + what];
         }
 
-        boolean isOf(int fact, int type, int year) {
-            return get(fact, TYPE) == type && get(fact, YEAR) == year;
-        }
-
-        int weekOf(int noon) {
-            return get(noon, DAY) / WEEK_DAYS;
-        }
-
         int leanOfShipOf(int noon) {
             int ship = get(noon, SHIP);
             return isIn(ship, SHIPS) ? leans[ship] : 0;
@@ -1615,6 +1613,7 @@ public final class IceLogs {
         final int[] states = new int[FACT_LIMIT];
         final int[] indexes = new int[FACT_LIMIT];
         final int[] rightCells = new int[CELLS];
+        final int[] tails = new int[YEARS];
 
         Tracks(Text text, Facts facts) {
             this.text = text;
@@ -1631,26 +1630,45 @@ public final class IceLogs {
                 return;
             }
             known = n;
+            size = 0;
             for (int i = 0; i < FACT_LIMIT; i++) {
                 annulled[i] = false;
                 states[i] = TRACKLESS;
                 indexes[i] = NONE;
             }
-            for (int i = 0; i < n; i++) {
-                int fact = facts.get(i, YEAR);
-                if (facts.get(i, TYPE) == VOID && isIn(fact, FACT_LIMIT)) {
-                    annulled[fact] = true;
-                }
+            for (int i = 0; i < YEARS; i++) {
+                tails[i] = 0;
             }
-            size = 0;
+            for (int i = 0; i < n; i++) {
+                annulBy(i);
+            }
             for (int i = 0; i < n; i++) {
                 if (isKnownOf(i, NOON)) {
                     insert(i);
+                } else if (isKnownOf(i, TAILS)) {
+                    countTails(i);
                 }
             }
-            for (int i = 0; i < size && i < FACT_LIMIT; i++) {
-                indexes[noons[i]] = i;
-                states[noons[i]] = judge(i);
+            for (int i = 0; i < size; i++) {
+                int noon = noonOf(i);
+                if (isIn(noon, FACT_LIMIT)) {
+                    indexes[noon] = i;
+                    states[noon] = judge(i);
+                }
+            }
+        }
+
+        private void annulBy(int fact) {
+            int other = facts.get(fact, YEAR);
+            if (facts.get(fact, TYPE) == VOID && isIn(other, FACT_LIMIT)) {
+                annulled[other] = true;
+            }
+        }
+
+        private void countTails(int fact) {
+            int year = facts.get(fact, YEAR);
+            if (isIn(year, YEARS)) {
+                tails[year] += facts.get(fact, Y);
             }
         }
 
@@ -1770,6 +1788,15 @@ public final class IceLogs {
             return noon != NONE && stateOf(noon) == GOOD ? noon : NONE;
         }
 
+        /** The same, if it is of a week and YEAR. */
+        int goodOf(int i, int week, int year) {
+            if (!isIn(i, size) || i >= FACT_LIMIT) {
+                return NONE;
+            }
+            boolean isOfWeek = keys[i] % DAYS / WEEK_DAYS == week && keys[i] / DAYS % YEARS == year;
+            return isOfWeek ? goodAt(i) : NONE;
+        }
+
         int countSlips() {
             int slips = 0;
             for (int i = 0; i < size; i++) {
@@ -1801,13 +1828,7 @@ public final class IceLogs {
         }
 
         int tailsOf(int year) {
-            int sum = 0;
-            for (int i = 0; i < known; i++) {
-                if (isKnownOf(i, TAILS) && facts.get(i, YEAR) == year) {
-                    sum += facts.get(i, Y);
-                }
-            }
-            return sum;
+            return isIn(year, YEARS) ? tails[year] : 0;
         }
 
         boolean isPicture(int fact) {
@@ -1816,7 +1837,8 @@ public final class IceLogs {
 
         boolean hasPicture(int x, int week, int year) {
             for (int i = 0; i < known; i++) {
-                if (isPicture(i) && facts.isOf(i, PICTURE, year) && facts.get(i, DAY) == week && facts.get(i, X) == x) {
+                boolean isThere = facts.get(i, YEAR) == year && facts.get(i, DAY) == week && facts.get(i, X) == x;
+                if (isThere && isPicture(i)) {
                     return true;
                 }
             }
@@ -1854,20 +1876,16 @@ public final class IceLogs {
             this.ice = ice;
         }
 
-        private boolean isOfWeek(int noon, int week, int year) {
-            return noon != NONE && facts.get(noon, YEAR) == year && facts.weekOf(noon) == week;
-        }
-
-        private boolean isSilent(int noon) {
-            return facts.get(noon, KIND) == SILENT;
+        private boolean isHeard(int noon) {
+            return noon != NONE && facts.get(noon, KIND) != SILENT;
         }
 
         /** The columns (bits) of which there are GOOD NOONS. */
         int columnsSeen(int week, int year) {
             int seen = 0;
             for (int i = 0; i < tracks.size; i++) {
-                int noon = tracks.goodAt(i);
-                if (isOfWeek(noon, week, year)) {
+                int noon = tracks.goodOf(i, week, year);
+                if (noon != NONE) {
                     seen |= 1 << facts.get(noon, X);
                 }
             }
@@ -1901,8 +1919,8 @@ public final class IceLogs {
                 rows[row] = 0;
             }
             for (int i = 0; i < tracks.size; i++) {
-                int noon = tracks.goodAt(i);
-                if (isOfWeek(noon, week, year) && facts.get(noon, X) == x && !isSilent(noon)) {
+                int noon = tracks.goodOf(i, week, year);
+                if (isHeard(noon) && facts.get(noon, X) == x) {
                     many++;
                     countRows(Math.max(0, lowOf(noon, slack)), Math.min(ROWS, highOf(noon, slack)));
                 }
@@ -1944,8 +1962,8 @@ public final class IceLogs {
             lookAtEdges(week, year);
             fitted = 0;
             for (int i = 0; i < tracks.size; i++) {
-                int noon = tracks.goodAt(i);
-                if (isOfWeek(noon, week, year) && !isSilent(noon)) {
+                int noon = tracks.goodOf(i, week, year);
+                if (isHeard(noon)) {
                     fitted++;
                     countFits(facts.get(noon, X), lowOf(noon, slack), highOf(noon, slack));
                 }

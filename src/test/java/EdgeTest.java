@@ -240,6 +240,9 @@ public final class EdgeTest {
         Check.due(29, "by those that FIT", two.next(2, 7, 0, 1), 4);
         Check.due(29, "slack", two.next(2, 7, 3, 1), 4);
         Check.due(29, "another week", two.next(3, 7, 0, 1), 5);
+        // three of column 0 (NOISES 7 to 9), three of each other one (0 to 2)
+        IceLogs ends = Check.with("edge=noise-(noise/8)*(noise-7)*(1/(x+1))+(2-noise)*(1/(noise/2+1))*(1-1/(x+1));");
+        Check.due(29, "alike ones: the least", ends.next(2, 7, 0, 0), 0);
     }
 
     private static void keepers() {
@@ -553,6 +556,10 @@ public final class EdgeTest {
         beside.noon(1, 7, 15, 9, 5, FAST, 0);
         sayIs(beside, 1 + 2 + 4);
         IceLogs slipped = Check.with("land 3 4;");
+        IceLogs pictured = new IceLogs();
+        pictured.picture(7, 2, 3, 5);
+        Check.due(39, "a PICTURE is the first FACT", pictured.say(3, 2, 7, 1), 4 + 32);
+        Check.due(39, "nobody KNOWS it", pictured.say(3, 2, 7, 0), 4);
         note(slipped, 0, 4, FAST, 0);
         sayIs(slipped, 4);
         trendsSaid();

@@ -130,6 +130,8 @@ public final class FactTest {
             Check.due(15, "no such", logs.track(w[0], w[1], w[2]), -1);
             Check.due(16, "no such", logs.trackAt(w[0], w[1], w[2], 0), -1);
         }
+        Check.due(16, "no such n", logs.trackAt(2, 7, 9, 0), -1);
+        Check.due(16, "no such n", logs.trackAt(2, 7, -1, 0), -1);
     }
 
     private static void tracksAsKnown() {

@@ -193,6 +193,10 @@ public final class IceTest {
         Check.due(8, "a high price", priced.go(1, 3, 7, 0, 0, 0, 99, 2), 36 + 9);
         Check.due(8, "a low price", priced.go(1, 3, 7, 0, 0, 0, 0, 2), 36 + 5);
         Check.due(8, "a price between", priced.go(1, 3, 7, 0, 0, 0, 50, 2), 36 + 7);
+        IceLogs corner = Check.with("edge=0;want a=y*(50-price);");
+        Check.due(8, "from 0, 0 by a high price", corner.go(0, 0, 1, 0, 0, 0, 99, 1), 0);
+        Check.due(8, "from 0, 0 by a low price", corner.go(0, 0, 0, 0, 0, 0, 0, 1), 1);
+        Check.due(8, "to 0, 0 by a high price", corner.go(0, 0, 1, 0, 0, 0, 99, 1), 0);
         IceLogs timed = Check.with("edge=week+year+noise;want a=0-y;");
         Check.due(8, "by that week's ice", timed.go(0, 3, 11, 1, 2, 3, 0, 7), 36 + 6);
         IceLogs all = Check.with("want a=week;want b=x*(week+year*2+noise*4-37);");
@@ -356,6 +360,12 @@ public final class IceTest {
         outIs(between, 3, 0, 1, 0);
         outIs(between, 3, 0, 3, 1);
         outIs(between, 3, 0, 0, 1);
+        // there is ICE at y 0 in week 13 alone
+        IceLogs north = Check.with("edge=(14-week)*(week-12);");
+        outIs(north, 0, 0, 12, 1);
+        outIs(north, 0, 0, 13, 0);
+        outIs(north, 0, 0, 14, 1);
+        outIs(north, 0, 0, 15, 0);
         // a way through LEADS alone, round LAND
         IceLogs leads = Check.with("edge=12;lead if x==3;lead if y==5;lead if x==7;land 3 6;land 2 3;");
         outIs(leads, 3, 1, 9, 1);
@@ -407,6 +417,7 @@ public final class IceTest {
         Check.due(33, "LAND has none", logs.eye(3, 0, 0, 0, 10), 3);
         Check.due(33, "LAND has none", logs.eye(3, 0, 0, 0, 2), 11);
         Check.due(33, "without", Check.with("share=3;").eye(0, 0, 0, 0, 4), 0);
+        Check.due(33, "northernmost alone", Check.with("share=10-y*10;").eye(0, 0, 0, 0, 10), 1);
         Check.due(33, "not the first but the last", Check.with("share=(y-5)*(y-5);").eye(0, 0, 0, 0, 10), 12);
         Check.due(33, "by week, year, noise", Check.with("share=week+year+noise-y;").eye(0, 2, 3, 4, 5), 5);
         int[][] wrong = {{-1, 0, 0, 0, 1}, {10, 0, 0, 0, 1}, {0, -1, 0, 0, 1}, {0, 16, 0, 0, 1}, {0, 0, -1, 0, 1}, {0, 0, 40, 0, 1},
@@ -431,6 +442,8 @@ public final class IceTest {
         // from the southernmost, though there are LAND and water north of it
         IceLogs land = Check.with("edge=x;land 9 11;want a=0-y*y;move 1;");
         Check.due(34, "from the southernmost", land.wanted(0, 0, 0, 0, 0), 0);
+        String column = "land 3 1;land 3 2;land 3 3;land 3 4;land 3 5;land 3 6;land 3 7;land 3 8;land 3 9;land 3 10;land 3 11;";
+        Check.due(34, "from y 0", Check.with("edge=x/9*12;want a=0;" + column).wanted(0, 0, 0, 0, 0), 9 * 7 * -12);
         IceLogs priced = Check.with("edge=x;want a=x*(price-50);");
         Check.due(34, "a high price", priced.wanted(0, 0, 0, 0, 99), 1960);
         Check.due(34, "a low price", priced.wanted(0, 0, 0, 0, 1), -1960);

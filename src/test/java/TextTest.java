@@ -86,6 +86,7 @@ public final class TextTest {
         fault("edge=(x+y*2-week/3)*(year-noise)+off*(whales+ice)*price;", 0, -1);
         fault("want abcdefgh=1;", 0, -1);
         fault("want lands=1;want xy=2;", 0, -1);
+        fault("want z=1;want az=2;want zzzzzzzz=3;want aaaaaaaa=4;", 0, -1);
         fault("lead if not not x<=1 and y!=2 or week==3 and 1<2;", 0, -1);
         fault("edge=0007;", 0, -1);
         fault("edge=5", 1, 6);
@@ -129,6 +130,10 @@ public final class TextTest {
         }
         fault("lead x<1;", 1, 5);
         fault("lead if x;", 1, 9);
+        fault("lead if x 5;", 1, 10);
+        fault("lead if x y<5;", 1, 10);
+        fault("lead if x(5);", 1, 9);
+        fault("lead if x=5;", 1, 9);
         fault("lead if x=1;", 1, 9);
         fault("lead if x!1;", 1, 9);
         fault("lead if x<==1;", 1, 11);
