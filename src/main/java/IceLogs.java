@@ -910,7 +910,7 @@ public final class IceLogs {
 
         private void lookAt(int i) {
             index = i;
-            if (isIn(i, tape.many) && i <= MOST_TOKENS) {
+            if (i >= 0 && i < tape.many && i <= MOST_TOKENS) {
                 kind = tape.kinds[i];
                 start = tape.starts[i];
                 value = kind == INT ? (int) tape.values[i] : 0;
