@@ -144,7 +144,6 @@ public final class IceLogs {
     private final Spans spans;
     private final Trend trend;
     private final Keepers keepers;
-    private int fault;
     private int faultPlace;
 
     public IceLogs() {
@@ -190,7 +189,7 @@ public final class IceLogs {
 
     public int read() {
         tape.findTokens();
-        fault = parser.parse();
+        int fault = parser.parse();
         faultPlace = fault == 0 ? NONE : parser.faultPlace;
         if (fault == 0) {
             text.become(parser.draft);
