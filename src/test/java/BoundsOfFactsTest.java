@@ -34,6 +34,7 @@ public final class BoundsOfFactsTest {
         leastStock();
         noSuchStock();
         slots();
+        the512thCall();
         Check.finish();
     }
 
@@ -649,6 +650,24 @@ public final class BoundsOfFactsTest {
         Bounds.ranges(38, "NONE: no such ones", Bounds::some, (l, a) -> l.least(a[0], 7), -1, new int[] {5}, Bounds.to(0, 39));
     }
 
+    // ---- 'An object is used for at most 512 calls after it has been made'
+
+    private static void the512thCall() {
+        IceLogs logs = new IceLogs();
+        int calls = 0;
+        for (int i = 0; i < 120; i++) {
+            calls++;
+            Check.due(10, "call " + calls, logs.noon(i % 6, i / 40, i % 40, 3, 6, SILENT, 0), i);
+        }
+        while (calls < 509) {
+            calls++;
+            Check.due(18, "call " + calls, logs.slips(calls % 121), 0);
+        }
+        Check.due(12, "call 510", logs.tails(0, 0), -1);
+        Check.due(42, "call 511", logs.count(3), 120);
+        Check.due(15, "call 512", logs.track(5, 2, 120), 7);
+    }
+
     // ---- Promises 40 and 41
 
     private static int again(IceLogs logs, int... a) {
@@ -686,6 +705,9 @@ public final class BoundsOfFactsTest {
         }
         full.again(2);
         Check.due(41, "FACTS of another", full.count(3), 6);
+        for (int i = 6; i < 120; i++) {
+            full.picture(i % 40, 15, 9, 12);
+        }
         full.again(0);
         Check.due(41, "120 FACTS", full.count(3), 120);
         for (int i = 7; i < 120; i++) {

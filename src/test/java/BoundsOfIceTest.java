@@ -421,6 +421,20 @@ public final class BoundsOfIceTest {
                 Check.due(31, steps + " steps, MOVE " + move, logs.last(x, y, 3, 4), 16 - least);
             }
         }
+        // the same ways from the other side, and there and back
+        String mirrored = "edge=12;lead if x==9;lead if y==0;lead if x==0 and y<6;";
+        IceLogs west = Check.with(mirrored);
+        for (int steps = 0; steps <= 25; steps++) {
+            int x = steps <= 11 ? 9 : Math.max(0, 20 - steps);
+            int y = steps <= 11 ? 11 - steps : steps <= 20 ? 0 : steps - 20;
+            Check.due(31, steps + " steps from the other side", west.last(x, y, 3, 4), 16 - Math.max(1, (steps + 6) / 7));
+        }
+        IceLogs round = Check.with("edge=12;lead if x==5 and y<9;lead if y==8 and 1<x and x<6;lead if x==2 and 3<y;lead if y==4 and x==3;");
+        Check.due(30, "west, and south", round.out(5, 8, 15, 0, 0), 1);
+        Check.due(30, "seven steps", round.out(5, 7, 15, 0, 0), 1);
+        Check.due(30, "eight steps", round.out(5, 6, 15, 0, 0), 0);
+        Check.due(30, "a way that is shut in", round.out(3, 4, 15, 0, 0), 0);
+        Check.due(30, "with a week more", round.out(3, 4, 14, 0, 0), 1);
         // 'from water to water beside': not through ICE, LAND, nor by corners
         IceLogs corner = Check.with("edge=12;lead if x==3 and 5<y;lead if x==4 and y<6;");
         Check.due(30, "by the corner there is no way", corner.out(4, 5, 0, 0, 0), 0);
@@ -486,6 +500,14 @@ public final class BoundsOfIceTest {
         Check.due(31, "in none", Check.with("edge=12;").last(0, 11, 0, 0), -2);
         Check.due(31, "LAND", Check.with("edge=0;land 0 11;").last(0, 11, 0, 0), -2);
         Check.due(31, "water in weeks 3 and 8 alone", Check.with("edge=12*(week-3)*(week-3)*(week-8)*(week-8);").last(0, 11, 0, 0), 8);
+        for (int noise = 0; noise < 10; noise++) {
+            Check.due(31, "NOISE (as told)", Check.with("edge=12*((week+15-noise)/16);").last(4, 11, 5, noise), noise);
+            Check.due(30, "NOISE (as told)", Check.with("edge=12*((week+15-noise)/16);").out(4, 11, noise, 5, noise), 1);
+            Check.due(30, "NOISE (as told)", Check.with("edge=12*((week+15-noise)/16);").out(4, 11, noise + 1, 5, noise), 0);
+        }
+        for (int year = 0; year < 40; year += 13) {
+            Check.due(31, "YEAR", Check.with("edge=12*((week+15-year/3)/16);").last(4, 11, year, 7), year / 3);
+        }
         // where it is not water in week 15, week 14 counts
         Check.due(31, "that is water then", Check.with("edge=12*(week/15);").last(0, 11, 0, 0), 14);
         // it is water in week 15, but too far; ICE is in week 14, so weeks 12 and 13 have to do
@@ -506,6 +528,12 @@ public final class BoundsOfIceTest {
             Check.due(33, "0 without", Check.with("share=" + (least - 1) + ";").eye(3, 0, 0, 0, least), 0);
             Check.due(33, "12 at most", Check.with("share=" + least + ";").eye(3, 0, 0, 0, least), 12);
         }
+        IceLogs turns = Check.with("share=week+year+noise-y-x;edge=week;");
+        Check.due(33, "of week, YEAR, NOISE", turns.eye(0, 3, 2, 1, 1), 6);
+        Check.due(33, "of another week", turns.eye(0, 4, 2, 1, 1), 7);
+        Check.due(33, "of another YEAR", turns.eye(0, 4, 0, 1, 1), 5);
+        Check.due(33, "of another NOISE", turns.eye(0, 4, 0, 9, 1), 12);
+        Check.due(33, "of another x", turns.eye(9, 4, 0, 9, 1), 4);
         Check.due(33, "none if not told", new IceLogs().eye(3, 0, 0, 0, 1), 0);
         Check.due(33, "y 0 alone", Check.with("share=1-y;").eye(3, 0, 0, 0, 1), 1);
         Check.due(33, "y 11 alone", Check.with("share=y-10;").eye(3, 0, 0, 0, 1), 12);
@@ -533,6 +561,16 @@ public final class BoundsOfIceTest {
         // by LEADS it may go where the edge is another: one DAY to x 4, from then on there
         Check.due(34, "at the end of each DAY", Check.with("edge=12-1/(1+(x-3)*(x-3));lead if y==11;want a=x;").wanted(0, 0, 0, 0, 0),
             7 * (120 - 119));
+        // y 0 is its southernmost: all else is LAND
+        Check.due(34, "from y 0", Check.with("edge=x/9*12;land 3 11;land 3 10;land 3 9;land 3 8;land 3 7;land 3 6;land 3 5;land 3 4;land 3 3;land 3 2;"
+            + "land 3 1;want a=0;").wanted(0, 0, 0, 0, 0), 9 * 7 * -12);
+        // by turns: WANT by WANT, price by price, and behind a ship's way
+        IceLogs turns = Check.with("edge=x;want stay=0;want east=x;want priced=x*(price-50);");
+        int[][] asked = {{0, 0, 0}, {1, 0, 1960}, {2, 0, -1960}, {2, 99, 1960}, {2, 50, 0}, {2, 49, -1960}, {2, 51, 1960}, {0, 99, 0}, {1, 99, 1960}};
+        for (int[] a : asked) {
+            Check.due(34, "WANT " + a[0] + ", price " + a[1], turns.wanted(a[0], 0, 0, 0, a[1]), a[2]);
+            Check.due(8, "a ship's way", turns.go(1, 3, 11, 0, 0, 0, 0, 1), 59);
+        }
         // the week's ice in all 7 DAYS
         Check.due(34, "that week's ice", Check.with("edge=x*(1-week/15);want a=x;").wanted(0, 15, 0, 0, 0), 0);
         Check.due(34, "that week's ice", Check.with("edge=x*(1-week/15);want a=x;").wanted(0, 14, 0, 0, 0), 5110 - 3150);

@@ -451,6 +451,20 @@ public final class BoundsOfLogsTest {
         told.lean(0, 2);
         told.lean(1, -2);
         leansAre("(without LEANS)", told, 1, -2, -2);
+        // KEEPERS asked ahead, or another n, do not matter
+        IceLogs turns = met(0, 1, 7, 6, 0, 1, 6, 8, 0, 1, 6, 8);
+        Check.due(26, "by two", turns.leanOf(1, 2), 1);
+        Check.due(26, "by six", turns.leanOf(1, 6), -2);
+        Check.due(26, "by two again", turns.leanOf(1, 2), 1);
+        for (int i = 0; i < 9; i++) {
+            Check.due(25, "KEEPERS", turns.keepers(0, 1, 2, 1), 1);
+        }
+        Check.due(26, "by six again", turns.leanOf(1, 6), -2);
+        Check.due(26, "by two again", turns.leanOf(1, 2), 1);
+        for (int i = 0; i < 9; i++) {
+            Check.due(25, "KEEPERS", turns.keepers(0, 1, 6, 0), 3);
+        }
+        Check.due(26, "by two again", turns.leanOf(1, 2), 1);
         Bounds.Call lean = (l, a) -> l.leanOf(1, l.count(3));
         IceLogs asked = Bounds.some();
         lean.of(asked);
@@ -596,6 +610,9 @@ public final class BoundsOfLogsTest {
                 IceLogs logs = years(told);
                 int n = logs.count(3);
                 Check.due(27, "ways of " + java.util.Arrays.toString(edges), logs.trend(3, 2, n, 3), waysByHand(edges));
+                Check.due(27, "its ways asked again", logs.trend(3, 2, n, 3), waysByHand(edges));
+                Check.due(27, "of another x", logs.trend(4, 2, n, 3), 1);
+                Check.due(27, "its ways behind these", logs.trend(3, 2, n, 3), waysByHand(edges));
                 Check.due(27, "BACK less FORTH", logs.trend(3, 2, n, 1) - logs.trend(3, 2, n, 2), less(edges));
             }
         }
@@ -648,6 +665,17 @@ public final class BoundsOfLogsTest {
         }
         // 5 of 10 in x 4, 6 of 10 elsewhere; 4 and 6 in x 4 but 5 and 5 in x 7: the greatest number counts
         Check.due(29, "the greatest number", Check.with("edge=noise/6*(1/(1+(x-4)*(x-4)))+noise/5*(1/(1+(x-7)*(x-7)));").next(2, 7, 0, 0), 7);
+        // 10 of x 0, 5 and 5 of x 1 (11 and 12), 6 and 4 of x 2
+        Check.due(29, "row 12 is a row", Check.with("edge=(11+noise/5)*(1/(1+(x-1)*(x-1)))+noise/6*(1/(1+(x-2)*(x-2)));").next(2, 7, 0, 0), 1);
+        Check.due(29, "row 12 is a row", Check.with("edge=12-noise/5*(1/(1+(x-1)*(x-1)))-noise/6*(1/(1+(x-2)*(x-2)));").next(2, 7, 0, 0), 1);
+        IceLogs turns = Check.with("edge=noise/5*5*(1/(1+(x-1)*(x-1)))+noise*(1/(1+(x-2)*(x-2)));");
+        turns.noon(0, 7, 14, 2, 4, FAST, 0);
+        turns.noon(1, 7, 15, 2, 6, FAST, 0);
+        for (int i = 0; i < 3; i++) {
+            Check.due(29, "as KNOWN by none", turns.next(2, 7, 0, 0), 2);
+            Check.due(29, "as KNOWN by one", turns.next(2, 7, 0, 1), 0);
+            Check.due(29, "as KNOWN by two", turns.next(2, 7, 0, 2), 1);
+        }
         // held to 12: there many have one EDGE
         Check.due(29, "THE EDGE is held", Check.with("edge=noise+12*(1-x/9);").next(2, 7, 0, 0), 9);
     }
@@ -819,7 +847,8 @@ public final class BoundsOfLogsTest {
     private static void sayByTrend() {
         int[][] edges = {{}, {6}, {6, 5}, {6, 5, 4}, {7, 6, 5, 4}, {7, 6, 5, 5}, {7, 6, 4, 5}, {8, 7, 6, 5, 5}, {8, 7, 5, 5, 5}, {8, 7, 6, 4, 5},
             {8, 6, 7, 4, 5}, {8, 5, 6, 7, 4}, {9, 8, 7, 6, 5, 4}, {9, 7, 8, 5, 6, 4}, {5, 6, 9, 4, 8, 7}, {9, 8, 7, 6, 5, 4, 3}, {9, 6, 7, 8, 3, 5, 4},
-            {9, 5, 6, 7, 8, 3, 4}, {6, 6, 6, 6, 6, 6, 6}, {7, 6, 6, 6, 6, 6, 5}, {7, 7, 7, 7, 6, 6, 6}, {7, 7, 7, 6, 6, 6}, {7, 7, 6, 6, 6}};
+            {9, 5, 6, 7, 8, 3, 4}, {6, 6, 6, 6, 6, 6, 6}, {7, 6, 6, 6, 6, 6, 5}, {7, 7, 7, 7, 6, 6, 6}, {7, 7, 7, 6, 6, 6}, {7, 7, 6, 6, 6},
+            {3, 3, 2, 3, 2, 1, 2}, {3, 3, 2, 2, 3, 1, 2}};
         int all = 1;
         int yes = 0;
         for (int[] e : edges) {
@@ -841,6 +870,7 @@ public final class BoundsOfLogsTest {
         // just a twentieth: 6 of 120; 7 7 7 6 6 6 has 36 of 720
         Check.due(39, "by hand", waysByHand(8, 7, 5, 5, 5), 6);
         Check.due(39, "by hand", waysByHand(7, 7, 7, 6, 6, 6), 36);
+        Check.due(39, "by hand", waysByHand(3, 3, 2, 3, 2, 1, 2), 252);
     }
 
     private static void noSuchOnes() {

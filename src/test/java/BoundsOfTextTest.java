@@ -230,6 +230,10 @@ public final class BoundsOfTextTest {
         good("lead if 1<2;");
         fault("lead if;", 1, 7);
         fault("lead if 1;", 1, 9);
+        fault("lead if 1 1;", 1, 10);
+        fault("lead if 1 1<2;", 1, 10);
+        fault("lead if x(5)<2;", 1, 9);
+        fault("lead if x week<2;", 1, 10);
         fault("lead if 1<2", 1, 11);
         fault("lead=1;", 1, 4);
         good("want a=1;");
@@ -335,6 +339,15 @@ public final class BoundsOfTextTest {
         Check.due(6, "EDGE alone not told", one.edge(0, 0, 0, 0), 5);
         Check.due(7, "WHALE not told", one.cell(0, 0, 0, 0, 0, 2), 1);
         Check.due(7, "SHARE told", one.cell(0, 0, 0, 0, 0, 1), 3);
+        // a lead's law alone is told: no other one is another for it
+        for (String told : new String[] {"lead if x==3;", "want a=y/x;", "want a=0;lead if 1/x<0;"}) {
+            IceLogs alone = Check.with(told);
+            for (int x = 0; x < 10; x++) {
+                Check.due(6, told + " EDGE not told", alone.edge(x, 0, 0, 0), 5);
+                Check.due(7, told + " SHARE not told", alone.cell(x, 3, 0, 0, 0, 1), 0);
+                Check.due(7, told + " WHALE not told", alone.cell(x, 3, 0, 0, 0, 2), 1);
+            }
+        }
         IceLogs last = Check.with("edge=1;share=2;whale=3;edge=4;share=5;whale=6;edge=7;share=8;whale=9;sight 5;sight 0;move 3;move 2;births 100;births 0;");
         Check.due(6, "the last EDGE told", last.edge(0, 0, 0, 0), 7);
         Check.due(7, "the last SHARE told", last.cell(0, 0, 0, 0, 0, 1), 8);
@@ -602,6 +615,19 @@ public final class BoundsOfTextTest {
         Check.due(4, "LEANS told stay", logs.span(3, 3, 5, 0, 2, 0), 4);
         Check.due(4, "SLOTS stay", logs.again(1), true);
         Check.due(4, "with their FACTS", logs.count(3), 3);
+        // text by text, each as long as can be: the last one alone is there
+        IceLogs many = new IceLogs();
+        for (int i = 0; i < 100; i++) {
+            String text = "edge=" + i % 13 + "+0".repeat(180) + ";share=" + i % 11 + ";lead if x==" + i % 10 + ";want a=0-(x-" + i % 10 + ")*(x-" + i % 10
+                + ");";
+            Check.due(4, "text " + i, Check.tell(many, text), 0);
+            Check.due(6, "text " + i, many.edge(0, 0, 0, 0), i % 13);
+            Check.due(7, "text " + i, many.cell(0, 0, 0, 0, 0, 1), i % 11);
+            Check.due(42, "text " + i, many.count(1), 1);
+            if (i % 13 < 12) {
+                Check.due(8, "text " + i, many.go(0, i % 10, 11, 0, 0, 0, 0, 7), 12 * (i % 10) + 11);
+            }
+        }
         // what is seen of FACTS is by the text that is there: SIGHT, MOVE, LAND
         IceLogs tracks = new IceLogs();
         tracks.noon(0, 0, 0, 3, 5, Bounds.CLEAR, 0);
@@ -744,7 +770,7 @@ public final class BoundsOfTextTest {
         }
         // what one WANT was asked of stays in no law: EDGE has no price, SHARE no ice
         IceLogs logs = Check.with("edge=5+price+ice+whales+off+y;share=3+price+ice+whales;whale=4+price+ice+whales;lead if price!=0 or ice!=0 or whales!=0;want a=0-y;");
-        Check.due(8, "a WANT", logs.go(0, 3, 6, 2, 7, 4, 99, 1), 12 * 3 + 5);
+        Check.due(8, "a WANT", logs.go(0, 3, 5, 2, 7, 4, 99, 1), 12 * 3 + 5);
         Check.due(6, "EDGE behind a WANT", logs.edge(3, 2, 7, 4), 5);
         Check.due(7, "SHARE behind a WANT", logs.cell(3, 4, 2, 7, 4, 1), 3);
         Check.due(7, "WHALES behind a WANT", logs.cell(3, 4, 2, 7, 4, 2), 4);
